@@ -18,6 +18,7 @@ public final class CycleTest {
         recyclingEndsInFailure();
         theRecordIsOfTheLastCycleAlone();
         otherSlotsAreUntouched();
+        everySlotIsRemoved();
         theGreatestSumsFit();
         CHECK.finish();
     }
@@ -98,7 +99,7 @@ public final class CycleTest {
         Probe t = new Probe(CHECK, 2, 2, 8, 2);
         t.fundSecurity(1, 0, 2, true, "holding(1, 0) 0 -> 2", "totalHolding(0) 0 -> 2");
         t.fundSecurity(0, 1, 1, true, "holding(0, 1) 0 -> 1", "totalHolding(1) 0 -> 1");
-        t.accepted(0, Probe.parties(1, 0), 0, 1, 10);
+        t.accepted(0, Probe.parties(1, 0), 0, 1, 1);
         t.accepted(1, Probe.parties(1, 0), 0, 1, 0);
         t.accepted(2, Probe.parties(0, 1), 1, 1, 0);
         t.cycle(2, "cycleCount() 0 -> 1", "removedAt(0) -1 -> 0", "attempts(0) 0 -> 1",
@@ -191,6 +192,22 @@ public final class CycleTest {
         t.accepted(3, Probe.parties(0, 1), 0, 1, 0);
         t.cancel(3, true, "status(3) 1 -> 3");
         t.cycle(0, "cycleCount() 2 -> 3");
+    }
+
+    private static void everySlotIsRemoved() {
+        DvpSettler x = new DvpSettler(2, 1, 8, 2);
+        x.fundSecurity(0, 0, 3);
+        x.fundCash(1, 4);
+        for (int id = 0; id < 8; id++) {
+            x.submit(Probe.parties(0, 1), 0, 5, 6);
+        }
+        CHECK.due("a cycle that removes every slot", x.cycle(), 0);
+        CHECK.due("the last removed", x.removedAt(7), 0);
+        // The balances are those of an empty batch, not of the batch before the last removal.
+        CHECK.due("cash(0) after it", x.cash(0), 0);
+        CHECK.due("cash(1) after it", x.cash(1), 4);
+        CHECK.due("holding(0, 0) after it", x.holding(0, 0), 3);
+        CHECK.due("holding(1, 0) after it", x.holding(1, 0), 0);
     }
 
     private static void theGreatestSumsFit() {

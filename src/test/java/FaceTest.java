@@ -111,7 +111,7 @@ public final class FaceTest {
         }
         String withoutFields = text.replaceAll("private final \\w+\\[\\] \\w+ = new \\w+\\[[A-Z_0-9]+\\];", "");
         CHECK.due("the text holds new outside a field", withoutFields.matches("(?s).*\\bnew\\b.*"), false);
-        Matcher nested = Pattern.compile("\\b(?!if|for|while|switch|return)\\w+\\((?:[^();{}]|\\([^()]*\\))*?\\w+\\(")
+        Matcher nested = Pattern.compile("\\b(?!(?:if|for|while|switch|return)\\b)\\w+\\((?:[^();{}]|\\([^()]*\\))*?\\w+\\(")
                 .matcher(text);
         CHECK.due("a call inside the arguments of another", nested.find() ? nested.group() : "none", "none");
     }
