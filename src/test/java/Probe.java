@@ -1,3 +1,5 @@
+import java.util.ArrayList;
+import java.util.List;
 import java.util.Set;
 import java.util.TreeSet;
 import java.util.function.Supplier;
@@ -7,18 +9,33 @@ import java.util.function.Supplier;
  * that a getter may show, as "getter before -> after"; any other change is a fault.
  */
 final class Probe {
+    private static final int FAR = 200;
+
     private final Check check;
     private final DvpSettler x;
     private State last;
 
-    Probe(Check check, int participants, int securities, int capacity, int maxRecycles) {
+    Probe(Check check, DvpSettler x) {
         this.check = check;
-        this.x = new DvpSettler(participants, securities, capacity, maxRecycles);
+        this.x = x;
         this.last = State.of(x);
+    }
+
+    Probe(Check check, int participants, int securities, int capacity, int maxRecycles) {
+        this(check, new DvpSettler(participants, securities, capacity, maxRecycles));
     }
 
     static int parties(int seller, int buyer) {
         return seller * 16 + buyer;
+    }
+
+    /** The removal record, up to its first -1. */
+    static String record(DvpSettler x) {
+        List<Integer> ids = new ArrayList<>();
+        for (int k = 0; x.removedAt(k) != -1 && k < FAR; k++) {
+            ids.add(x.removedAt(k));
+        }
+        return ids.toString();
     }
 
     DvpSettler settler() {
