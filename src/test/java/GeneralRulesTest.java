@@ -15,6 +15,18 @@ public final class GeneralRulesTest {
     }
 
     private static void overview() {
+        SECTION.test("PARTICIPANTS are numbered 0..P-1 and SECURITIES 0..S-1", "the ends, and one beyond each", check -> {
+            DvpSettler x = new DvpSettler(5, 3, 8, 1);
+            check.due("cash of -1, 0, 4, 5", x.cash(-1) + " " + x.cash(0) + " " + x.cash(4) + " " + x.cash(5),
+                    "-1 0 0 -1");
+            check.due("totalHolding of -1, 0, 2, 3", x.totalHolding(-1) + " " + x.totalHolding(0) + " "
+                    + x.totalHolding(2) + " " + x.totalHolding(3), "-1 0 0 -1");
+        });
+        SECTION.test("An INSTRUCTION lives in a slot with id 0..Q-1", "the ends, and one beyond each", check -> {
+            DvpSettler x = Scene.allQueued(11, 1);
+            check.due("status of -1, 0, 10, 11", x.status(-1) + " " + x.status(0) + " " + x.status(10) + " "
+                    + x.status(11), "-1 1 1 -1");
+        });
         SECTION.test("all start at 0", "of the largest object", check -> {
             DvpSettler x = new DvpSettler(8, 4, 64, 8);
             for (int p = 0; p < 8; p++) {
@@ -53,6 +65,14 @@ public final class GeneralRulesTest {
                     x.cycle();
                     check.due("status(0) after two", x.status(0), DvpSettler.FAILED);
                 });
+        SECTION.test("FAILED (4): removed by cycles maxRecycles times, given up", "with funds that come too late", check -> {
+            DvpSettler x = Scene.allQueued(8, 1);
+            x.cycle();
+            x.fundSecurity(0, 0, 8);
+            check.due("settleNow(0)", x.settleNow(0), false);
+            check.due("cycle()", x.cycle(), 0);
+            check.due("status(0)", x.status(0), DvpSettler.FAILED);
+        });
         SECTION.test("EMPTY = 0, QUEUED = 1, SETTLED = 2, CANCELLED = 3, FAILED = 4", "the constants", check ->
                 check.due("the constants", DvpSettler.EMPTY + " " + DvpSettler.QUEUED + " " + DvpSettler.SETTLED + " "
                         + DvpSettler.CANCELLED + " " + DvpSettler.FAILED, "0 1 2 3 4"));
@@ -82,18 +102,25 @@ public final class GeneralRulesTest {
             x.cycle();
             check.due("the record", Probe.record(x), "[0, 7]");
         });
-        SECTION.test(words, "after more submissions than a byte or a short can count", check -> {
+        youngestAfter(words, 128, "more than a byte counts");
+        youngestAfter(words, 256, "a counter of one byte is back at its start");
+        youngestAfter(words, 32768, "more than a short counts");
+        youngestAfter(words, 65536, "a counter of two bytes is back at its start");
+    }
+
+    /** Slot 1 keeps an old instruction while slot 0 is used again and again: the last one there is the youngest. */
+    private static void youngestAfter(String words, int accepted, String what) {
+        SECTION.test(words, what, check -> {
             DvpSettler x = new DvpSettler(2, 1, 8, 2);
             x.submit(PAIR, 0, 1, 0);
             x.submit(PAIR, 0, 1, 0);
-            x.cancel(0);
-            x.clearDone();
-            // Slot 1 keeps an old instruction while slot 0 is used again and again.
-            for (int i = 0; i < 70000; i++) {
-                x.submit(PAIR, 0, 1, 0);
+            for (int i = 2; i < accepted; i++) {
                 x.cancel(0);
                 x.clearDone();
+                x.submit(PAIR, 0, 1, 0);
             }
+            x.cancel(0);
+            x.clearDone();
             x.submit(PAIR, 0, 1, 0);
             x.cycle();
             check.due("the record", Probe.record(x), "[0, 1]");
@@ -139,29 +166,34 @@ public final class GeneralRulesTest {
                 check.due("one unit more", x.fundSecurity(0, s, 1), false);
             }
         });
-        SECTION.test("Arithmetic never exceeds int range", "64 of the greatest instructions without any funds", check -> {
-            DvpSettler x = new DvpSettler(2, 1, 64, 1);
-            for (int id = 0; id < 64; id++) {
-                x.submit(PAIR, 0, 1000000, 1000000);
-            }
-            check.due("cycle()", x.cycle(), 0);
-            check.due("removedAt(63)", x.removedAt(63), 0);
-            check.due("totals", x.totalCash() + " " + x.totalHolding(0), "0 0");
+        String range = "Arithmetic never exceeds int range: each total is kept at most MAX_TOTAL";
+        SECTION.test(range, "the greatest deficits, in cash and a security", check -> greatest(check, 0, 0, 0));
+        SECTION.test(range, "the greatest deficit in a security", check -> greatest(check, 100, 0, 0));
+        SECTION.test(range, "the greatest deficit in cash", check -> greatest(check, 0, 100, 0));
+        SECTION.test(range, "the greatest balances, and those that just cover", check -> {
+            greatest(check, 100, 100, 64);
+            greatest(check, 64, 64, 64);
+            greatest(check, 63, 100, 63);
+            greatest(check, 100, 63, 63);
         });
-        SECTION.test("Arithmetic never exceeds int range", "64 of the greatest instructions and the greatest balances",
-                check -> {
-                    DvpSettler x = new DvpSettler(2, 1, 64, 1);
-                    for (int i = 0; i < 100; i++) {
-                        x.fundCash(1, 1000000);
-                        x.fundSecurity(0, 0, 1000000);
-                    }
-                    for (int id = 0; id < 64; id++) {
-                        x.submit(PAIR, 0, 1000000, 1000000);
-                    }
-                    check.due("cycle()", x.cycle(), 64);
-                    check.due("cash", x.cash(0) + " " + x.cash(1), "64000000 36000000");
-                    check.due("holdings", x.holding(0, 0) + " " + x.holding(1, 0), "36000000 64000000");
-                });
+    }
+
+    /** 64 of the greatest instructions, where the buyer and the seller have so many millions: as many settle as told. */
+    private static void greatest(Check check, int cash, int held, int settled) {
+        DvpSettler x = new DvpSettler(2, 1, 64, 1);
+        for (int i = 0; i < cash; i++) {
+            x.fundCash(1, 1000000);
+        }
+        for (int i = 0; i < held; i++) {
+            x.fundSecurity(0, 0, 1000000);
+        }
+        for (int id = 0; id < 64; id++) {
+            x.submit(PAIR, 0, 1000000, 1000000);
+        }
+        check.due("cycle()", x.cycle(), settled);
+        check.due("cash", x.cash(0) + " " + x.cash(1), settled * 1000000 + " " + (cash - settled) * 1000000);
+        check.due("holdings", x.holding(0, 0) + " " + x.holding(1, 0),
+                (held - settled) * 1000000 + " " + settled * 1000000);
     }
 
     private static void refusedCalls() {
@@ -290,6 +322,16 @@ public final class GeneralRulesTest {
             check.due("holdings", x.holding(0, 0) + " " + x.holding(1, 0), "0 40");
             check.due("cycle() again", x.cycle(), 0);
             check.due("holdings", x.holding(0, 0) + " " + x.holding(1, 0), "0 40");
+        });
+        SECTION.test("the amounts where p was seller minus the amounts where p was buyer", "one who only hands on", check -> {
+            DvpSettler x = new DvpSettler(3, 1, 8, 1);
+            x.fundSecurity(0, 0, 10);
+            x.fundCash(2, 60);
+            x.submit(Probe.parties(0, 1), 0, 10, 50);
+            x.submit(Probe.parties(1, 2), 0, 10, 60);
+            check.due("cycle()", x.cycle(), 2);
+            check.due("cash", x.cash(0) + " " + x.cash(1) + " " + x.cash(2), "50 10 0");
+            check.due("holdings", x.holding(0, 0) + " " + x.holding(1, 0) + " " + x.holding(2, 0), "0 0 10");
         });
         SECTION.test("including those whose slots clearDone has since freed", "a slot used a hundred times", check -> {
             DvpSettler x = new DvpSettler(2, 1, 8, 1);

@@ -66,6 +66,8 @@ public final class Promise01ConstructionTest {
     }
 
     private static void everyInt() {
+        made("below the least allowed value becomes the least", "each by one", 1, 0, 7, 0, "2 1 8 1");
+        made("above the greatest becomes the greatest", "each by one", 9, 5, 65, 9, "8 4 64 8");
         String negative = "including negative values";
         made(negative, "participants", -1, 2, 10, 3, "2 2 10 3");
         made(negative, "securities", 3, -1, 10, 3, "3 1 10 3");

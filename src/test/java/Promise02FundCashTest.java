@@ -11,18 +11,8 @@ public final class Promise02FundCashTest {
 
     private static void participants() {
         String words = "0 <= p < P";
-        SECTION.test(words, "p is too small", check -> {
-            Probe t = new Probe(check, 3, 2, 8, 2);
-            for (int p : Range.below(0)) {
-                t.fundCash(p, 1, false);
-            }
-        });
-        SECTION.test(words, "p is too large", check -> {
-            Probe t = new Probe(check, 3, 2, 8, 2);
-            for (int p : Range.above(2)) {
-                t.fundCash(p, 1, false);
-            }
-        });
+        SECTION.each(words, "p is too small", Range.below(0), Scene::fresh, (t, p) -> t.fundCash(p, 1, false));
+        SECTION.each(words, "p is too large", Range.above(2), Scene::fresh, (t, p) -> t.fundCash(p, 1, false));
         SECTION.test(words, "the first and the last of each P, and the one behind", check -> {
             for (int participants = 2; participants <= 8; participants++) {
                 Probe t = new Probe(check, participants, 2, 8, 2);
@@ -36,18 +26,10 @@ public final class Promise02FundCashTest {
 
     private static void amounts() {
         String words = "1 <= amount <= MAX_AMOUNT";
-        SECTION.test(words, "0 and less is too small", check -> {
-            Probe t = new Probe(check, Scene.withTotalCash(1000));
-            for (int amount : Range.below(1)) {
-                t.fundCash(0, amount, false);
-            }
-        });
-        SECTION.test(words, "more than a million is too large", check -> {
-            Probe t = new Probe(check, 3, 2, 8, 2);
-            for (int amount : Range.above(1000000)) {
-                t.fundCash(0, amount, false);
-            }
-        });
+        SECTION.each(words, "0 and less is too small", Range.below(1), () -> Scene.withTotalCash(1000),
+                (t, amount) -> t.fundCash(0, amount, false));
+        SECTION.each(words, "more than a million is too large", Range.above(1000000), Scene::fresh,
+                (t, amount) -> t.fundCash(0, amount, false));
         SECTION.test(words, "1 is the least", check ->
                 new Probe(check, 3, 2, 8, 2).fundCash(0, 1, true, "cash(0) 0 -> 1", "totalCash() 0 -> 1"));
         SECTION.test(words, "a million is the greatest", check ->

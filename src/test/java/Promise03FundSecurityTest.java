@@ -12,18 +12,8 @@ public final class Promise03FundSecurityTest {
 
     private static void participants() {
         String words = "0 <= p < P";
-        SECTION.test(words, "p is too small", check -> {
-            Probe t = new Probe(check, 3, 2, 8, 2);
-            for (int p : Range.below(0)) {
-                t.fundSecurity(p, 1, 1, false);
-            }
-        });
-        SECTION.test(words, "p is too large", check -> {
-            Probe t = new Probe(check, 3, 2, 8, 2);
-            for (int p : Range.above(2)) {
-                t.fundSecurity(p, 0, 1, false);
-            }
-        });
+        SECTION.each(words, "p is too small", Range.below(0), Scene::fresh, (t, p) -> t.fundSecurity(p, 1, 1, false));
+        SECTION.each(words, "p is too large", Range.above(2), Scene::fresh, (t, p) -> t.fundSecurity(p, 0, 1, false));
         SECTION.test(words, "the first and the last of each P, and the one behind", check -> {
             for (int participants = 2; participants <= 8; participants++) {
                 Probe t = new Probe(check, participants, 1, 8, 2);
@@ -37,18 +27,8 @@ public final class Promise03FundSecurityTest {
 
     private static void securities() {
         String words = "0 <= s < S";
-        SECTION.test(words, "s is too small", check -> {
-            Probe t = new Probe(check, 3, 2, 8, 2);
-            for (int s : Range.below(0)) {
-                t.fundSecurity(1, s, 1, false);
-            }
-        });
-        SECTION.test(words, "s is too large", check -> {
-            Probe t = new Probe(check, 3, 2, 8, 2);
-            for (int s : Range.above(1)) {
-                t.fundSecurity(1, s, 1, false);
-            }
-        });
+        SECTION.each(words, "s is too small", Range.below(0), Scene::fresh, (t, s) -> t.fundSecurity(1, s, 1, false));
+        SECTION.each(words, "s is too large", Range.above(1), Scene::fresh, (t, s) -> t.fundSecurity(1, s, 1, false));
         SECTION.test(words, "the last of each S, and the one behind", check -> {
             for (int securities = 1; securities <= 4; securities++) {
                 Probe t = new Probe(check, 3, securities, 8, 2);
@@ -62,18 +42,10 @@ public final class Promise03FundSecurityTest {
 
     private static void quantities() {
         String words = "1 <= quantity <= MAX_AMOUNT";
-        SECTION.test(words, "0 and less is too small", check -> {
-            Probe t = new Probe(check, Scene.withTotalHolding(1, 1000));
-            for (int quantity : Range.below(1)) {
-                t.fundSecurity(0, 1, quantity, false);
-            }
-        });
-        SECTION.test(words, "more than a million is too large", check -> {
-            Probe t = new Probe(check, 3, 2, 8, 2);
-            for (int quantity : Range.above(1000000)) {
-                t.fundSecurity(0, 1, quantity, false);
-            }
-        });
+        SECTION.each(words, "0 and less is too small", Range.below(1), () -> Scene.withTotalHolding(1, 1000),
+                (t, quantity) -> t.fundSecurity(0, 1, quantity, false));
+        SECTION.each(words, "more than a million is too large", Range.above(1000000), Scene::fresh,
+                (t, quantity) -> t.fundSecurity(0, 1, quantity, false));
         SECTION.test(words, "1 is the least", check ->
                 new Probe(check, 3, 2, 8, 2).fundSecurity(2, 1, 1, true, "holding(2, 1) 0 -> 1",
                         "totalHolding(1) 0 -> 1"));

@@ -1,3 +1,5 @@
+import java.util.function.ToIntFunction;
+
 public final class Promise04SubmitTest {
     private static final Section SECTION = new Section("Promise 4: submit");
     private static final int PAIR = Probe.parties(0, 1);
@@ -95,18 +97,10 @@ public final class Promise04SubmitTest {
 
     private static void securities() {
         String words = "0 <= security < S";
-        SECTION.test(words, "security is too small", check -> {
-            Probe t = new Probe(check, 3, 2, 8, 2);
-            for (int security : Range.below(0)) {
-                t.refused(PAIR, security, 1, 1);
-            }
-        });
-        SECTION.test(words, "security is too large", check -> {
-            Probe t = new Probe(check, 3, 2, 8, 2);
-            for (int security : Range.above(1)) {
-                t.refused(PAIR, security, 1, 1);
-            }
-        });
+        SECTION.each(words, "security is too small", Range.below(0), Scene::fresh,
+                (t, security) -> t.refused(PAIR, security, 1, 1));
+        SECTION.each(words, "security is too large", Range.above(1), Scene::fresh,
+                (t, security) -> t.refused(PAIR, security, 1, 1));
         SECTION.test(words, "the first and the last of each S, and the one behind", check -> {
             for (int securities = 1; securities <= 4; securities++) {
                 Probe t = new Probe(check, 3, securities, 8, 2);
@@ -119,36 +113,20 @@ public final class Promise04SubmitTest {
 
     private static void quantities() {
         String words = "1 <= quantity <= MAX_AMOUNT";
-        SECTION.test(words, "0 and less is too small", check -> {
-            Probe t = new Probe(check, 3, 2, 8, 2);
-            for (int quantity : Range.below(1)) {
-                t.refused(PAIR, 0, quantity, 1);
-            }
-        });
-        SECTION.test(words, "more than a million is too large", check -> {
-            Probe t = new Probe(check, 3, 2, 8, 2);
-            for (int quantity : Range.above(1000000)) {
-                t.refused(PAIR, 0, quantity, 1);
-            }
-        });
+        SECTION.each(words, "0 and less is too small", Range.below(1), Scene::fresh,
+                (t, quantity) -> t.refused(PAIR, 0, quantity, 1));
+        SECTION.each(words, "more than a million is too large", Range.above(1000000), Scene::fresh,
+                (t, quantity) -> t.refused(PAIR, 0, quantity, 1));
         SECTION.test(words, "1 is the least", check -> moves(check, 1, 3));
         SECTION.test(words, "a million is the greatest", check -> moves(check, 1000000, 3));
     }
 
     private static void amounts() {
         String words = "0 <= amount <= MAX_AMOUNT (an amount of 0 is accepted)";
-        SECTION.test(words, "less than 0 is too small", check -> {
-            Probe t = new Probe(check, 3, 2, 8, 2);
-            for (int amount : Range.below(0)) {
-                t.refused(PAIR, 0, 1, amount);
-            }
-        });
-        SECTION.test(words, "more than a million is too large", check -> {
-            Probe t = new Probe(check, 3, 2, 8, 2);
-            for (int amount : Range.above(1000000)) {
-                t.refused(PAIR, 0, 1, amount);
-            }
-        });
+        SECTION.each(words, "less than 0 is too small", Range.below(0), Scene::fresh,
+                (t, amount) -> t.refused(PAIR, 0, 1, amount));
+        SECTION.each(words, "more than a million is too large", Range.above(1000000), Scene::fresh,
+                (t, amount) -> t.refused(PAIR, 0, 1, amount));
         SECTION.test(words, "0 is accepted", check -> moves(check, 3, 0));
         SECTION.test(words, "1 is accepted", check -> moves(check, 3, 1));
         SECTION.test(words, "a million is the greatest", check -> moves(check, 3, 1000000));
@@ -229,21 +207,36 @@ public final class Promise04SubmitTest {
                     t.refused(PAIR, 0, 0, 1);
                     t.refused(PAIR, 0, 1, -1);
                 });
-        SECTION.test("in particular the sequence counter does not advance", "the order of removal is that of the accepted",
-                check -> {
-                    DvpSettler x = Scene.allQueued(8, 2);
-                    x.cancel(2);
-                    x.clearDone();
-                    for (int i = 0; i < 100; i++) {
-                        check.due("a refused submit", x.submit(PAIR, 0, 0, 0), -1);
-                    }
-                    x.submit(PAIR, 0, 1, 0);
-                    for (int i = 0; i < 100; i++) {
-                        check.due("a submit to full slots", x.submit(PAIR, 0, 1, 0), -1);
-                    }
-                    x.cycle();
-                    check.due("the record", Probe.record(x), "[2, 7, 6, 5, 4, 3, 1, 0]");
-                });
+        String words = "in particular the sequence counter does not advance";
+        orderStays(words, "parties refused", x -> x.submit(256, 0, 1, 0));
+        orderStays(words, "seller refused", x -> x.submit(Probe.parties(2, 1), 0, 1, 0));
+        orderStays(words, "buyer refused", x -> x.submit(Probe.parties(1, 2), 0, 1, 0));
+        orderStays(words, "a deal with oneself refused", x -> x.submit(Probe.parties(1, 1), 0, 1, 0));
+        orderStays(words, "security refused", x -> x.submit(PAIR, 1, 1, 0));
+        orderStays(words, "quantity refused", x -> x.submit(PAIR, 0, 0, 0));
+        orderStays(words, "amount refused", x -> x.submit(PAIR, 0, 1, -1));
+        SECTION.test(words, "full slots", check -> {
+            DvpSettler x = Scene.allQueued(8, 2);
+            check.due("submit to full slots", x.submit(PAIR, 0, 1, 0), -1);
+            x.cancel(2);
+            x.clearDone();
+            x.submit(PAIR, 0, 1, 0);
+            x.cycle();
+            check.due("the record", Probe.record(x), "[2, 7, 6, 5, 4, 3, 1, 0]");
+        });
+    }
+
+    /** The counter itself cannot be read; what is seen is that what is accepted next is still the youngest. */
+    private static void orderStays(String words, String what, ToIntFunction<DvpSettler> refused) {
+        SECTION.test(words, what, check -> {
+            DvpSettler x = Scene.allQueued(8, 2);
+            x.cancel(2);
+            x.clearDone();
+            check.due("the refused submit", refused.applyAsInt(x), -1);
+            x.submit(PAIR, 0, 1, 0);
+            x.cycle();
+            check.due("the record", Probe.record(x), "[2, 7, 6, 5, 4, 3, 1, 0]");
+        });
     }
 
     private static void acceptance() {

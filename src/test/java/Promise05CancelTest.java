@@ -20,12 +20,8 @@ public final class Promise05CancelTest {
             t.cancel(0, true, "status(0) 1 -> 3");
             t.cancel(63, true, "status(63) 1 -> 3");
         });
-        SECTION.test("id out of range", "id is too small", check -> {
-            Probe t = new Probe(check, Scene.allQueued(64, 2));
-            for (int id : Range.below(0)) {
-                t.cancel(id, false);
-            }
-        });
+        SECTION.each("id out of range", "id is too small", Range.below(0), () -> Scene.allQueued(64, 2),
+                (t, id) -> t.cancel(id, false));
         SECTION.test("id out of range", "id is too large", check -> {
             for (int capacity = 8; capacity <= 64; capacity += 14) {
                 Probe t = new Probe(check, Scene.allQueued(capacity, 2));

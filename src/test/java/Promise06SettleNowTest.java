@@ -12,12 +12,8 @@ public final class Promise06SettleNowTest {
 
     private static void ids() {
         String words = "0 <= id < Q";
-        SECTION.test(words, "id is too small", check -> {
-            Probe t = new Probe(check, coveredSlots(64));
-            for (int id : Range.below(0)) {
-                t.settleNow(id, false);
-            }
-        });
+        SECTION.each(words, "id is too small", Range.below(0), () -> coveredSlots(64),
+                (t, id) -> t.settleNow(id, false));
         SECTION.test(words, "id is too large", check -> {
             for (int capacity = 8; capacity <= 64; capacity += 14) {
                 Probe t = new Probe(check, coveredSlots(capacity));

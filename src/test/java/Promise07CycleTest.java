@@ -319,6 +319,14 @@ public final class Promise07CycleTest {
         recycled.submit(Probe.parties(0, 1), 0, 1, 0);
         removed(youngest, "a recycled instruction keeps its age", recycled, "[0, 1]");
 
+        SECTION.test("Totals, the sequence counter and all slots not in the initial C are unchanged",
+                "recycled instructions keep their age among each other", check -> {
+                    DvpSettler x = Scene.allQueued(8, 8);
+                    for (int c = 1; c <= 3; c++) {
+                        x.cycle();
+                        check.due("the record of cycle " + c, Probe.record(x), "[7, 6, 5, 4, 3, 2, 1, 0]");
+                    }
+                });
         SECTION.test("append its id to the removal record", "64 removals", check -> {
             DvpSettler x = Scene.allQueued(64, 2);
             x.cycle();

@@ -3,18 +3,11 @@ public final class Promise09CashTest {
 
     public static void main(String[] args) {
         String words = "answers cash(p) if 0 <= p < P, else -1";
-        SECTION.test(words, "p is too small", check -> {
-            for (int p : Range.below(0)) {
-                check.due("cash(" + p + ")", Scene.withTotalCash(1000).cash(p), -1);
-            }
-        });
-        SECTION.test(words, "p is too large", check -> {
-            for (int participants = 2; participants <= 8; participants++) {
-                for (int p : Range.above(participants - 1)) {
-                    check.due("cash(" + p + ") of " + participants, new DvpSettler(participants, 4, 8, 1).cash(p), -1);
-                }
-            }
-        });
+        SECTION.eachUnknown(words, "p is too small", Range.below(0), Scene.withTotalCash(1000)::cash);
+        for (int participants = 2; participants <= 8; participants++) {
+            SECTION.eachUnknown(words, "p is too large for " + participants, Range.above(participants - 1),
+                    new DvpSettler(participants, 4, 8, 1)::cash);
+        }
         SECTION.test(words, "each participant has its own", check -> {
             DvpSettler x = new DvpSettler(8, 1, 8, 1);
             for (int p = 0; p < 8; p++) {

@@ -13,30 +13,18 @@ public final class Promise10HoldingTest {
 
     private static void ranges() {
         String words = "answers holding(p, s) if 0 <= p < P and 0 <= s < S, else -1";
-        SECTION.test(words, "p is too small", check -> {
-            for (int p : Range.below(0)) {
-                check.due("holding(" + p + ", 1)", filled(3, 2).holding(p, 1), -1);
-            }
-        });
-        SECTION.test(words, "p is too large", check -> {
-            for (int participants = 2; participants <= 8; participants++) {
-                for (int p : Range.above(participants - 1)) {
-                    check.due("holding(" + p + ", 0) of " + participants, filled(participants, 2).holding(p, 0), -1);
-                }
-            }
-        });
-        SECTION.test(words, "s is too small", check -> {
-            for (int s : Range.below(0)) {
-                check.due("holding(1, " + s + ")", filled(3, 2).holding(1, s), -1);
-            }
-        });
-        SECTION.test(words, "s is too large", check -> {
-            for (int securities = 1; securities <= 4; securities++) {
-                for (int s : Range.above(securities - 1)) {
-                    check.due("holding(0, " + s + ") of " + securities, filled(3, securities).holding(0, s), -1);
-                }
-            }
-        });
+        SECTION.eachUnknown(words, "p is too small", Range.below(0), p -> filled(3, 2).holding(p, 1));
+        SECTION.eachUnknown(words, "s is too small", Range.below(0), s -> filled(3, 2).holding(1, s));
+        for (int participants = 2; participants <= 8; participants++) {
+            DvpSettler x = filled(participants, 2);
+            SECTION.eachUnknown(words, "p is too large for " + participants, Range.above(participants - 1),
+                    p -> x.holding(p, 0));
+        }
+        for (int securities = 1; securities <= 4; securities++) {
+            DvpSettler x = filled(3, securities);
+            SECTION.eachUnknown(words, "s is too large for " + securities, Range.above(securities - 1),
+                    s -> x.holding(0, s));
+        }
         SECTION.test(words, "both are out of range", check -> {
             DvpSettler x = filled(3, 2);
             check.due("holding(-1, -1)", x.holding(-1, -1), -1);

@@ -3,19 +3,11 @@ public final class Promise12TotalHoldingTest {
 
     public static void main(String[] args) {
         String words = "answers the sum of holding(p, s) over all participants if 0 <= s < S, else -1";
-        SECTION.test(words, "s is too small", check -> {
-            for (int s : Range.below(0)) {
-                check.due("totalHolding(" + s + ")", Scene.withTotalHolding(0, 1000).totalHolding(s), -1);
-            }
-        });
-        SECTION.test(words, "s is too large", check -> {
-            for (int securities = 1; securities <= 4; securities++) {
-                for (int s : Range.above(securities - 1)) {
-                    check.due("totalHolding(" + s + ") of " + securities,
-                            new DvpSettler(8, securities, 8, 1).totalHolding(s), -1);
-                }
-            }
-        });
+        SECTION.eachUnknown(words, "s is too small", Range.below(0), Scene.withTotalHolding(0, 1000)::totalHolding);
+        for (int securities = 1; securities <= 4; securities++) {
+            SECTION.eachUnknown(words, "s is too large for " + securities, Range.above(securities - 1),
+                    new DvpSettler(8, securities, 8, 1)::totalHolding);
+        }
         SECTION.test(words, "the first and the last participant count, in each security", check -> {
             for (int s = 0; s < 4; s++) {
                 DvpSettler x = new DvpSettler(2 + s, 4, 8, 1);

@@ -11,19 +11,11 @@ public final class Promise13StatusTest {
 
     private static void ranges() {
         String words = "if 0 <= id < Q, else -1";
-        SECTION.test(words, "id is too small", check -> {
-            DvpSettler x = Scene.allQueued(64, 1);
-            for (int id : Range.below(0)) {
-                check.due("status(" + id + ")", x.status(id), -1);
-            }
-        });
-        SECTION.test(words, "id is too large", check -> {
-            for (int capacity = 8; capacity <= 64; capacity++) {
-                for (int id : Range.above(capacity - 1)) {
-                    check.due("status(" + id + ") of " + capacity, Scene.allQueued(capacity, 1).status(id), -1);
-                }
-            }
-        });
+        SECTION.eachUnknown(words, "id is too small", Range.below(0), Scene.allQueued(64, 1)::status);
+        for (int capacity = 8; capacity <= 64; capacity += 14) {
+            SECTION.eachUnknown(words, "id is too large for " + capacity, Range.above(capacity - 1),
+                    Scene.allQueued(capacity, 1)::status);
+        }
         SECTION.test(words, "the first and the last slot", check -> {
             for (int capacity = 8; capacity <= 64; capacity++) {
                 DvpSettler x = Scene.allQueued(capacity, 1);

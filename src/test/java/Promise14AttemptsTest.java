@@ -12,19 +12,11 @@ public final class Promise14AttemptsTest {
 
     private static void ranges() {
         String words = "if 0 <= id < Q and the slot is not EMPTY; else -1";
-        SECTION.test(words, "id is too small", check -> {
-            DvpSettler x = Scene.allQueued(64, 1);
-            for (int id : Range.below(0)) {
-                check.due("attempts(" + id + ")", x.attempts(id), -1);
-            }
-        });
-        SECTION.test(words, "id is too large", check -> {
-            for (int capacity = 8; capacity <= 64; capacity++) {
-                for (int id : Range.above(capacity - 1)) {
-                    check.due("attempts(" + id + ") of " + capacity, Scene.allQueued(capacity, 1).attempts(id), -1);
-                }
-            }
-        });
+        SECTION.eachUnknown(words, "id is too small", Range.below(0), Scene.allQueued(64, 1)::attempts);
+        for (int capacity = 8; capacity <= 64; capacity += 14) {
+            SECTION.eachUnknown(words, "id is too large for " + capacity, Range.above(capacity - 1),
+                    Scene.allQueued(capacity, 1)::attempts);
+        }
         SECTION.test(words, "the first and the last slot", check -> {
             DvpSettler x = Scene.allQueued(64, 2);
             x.cycle();

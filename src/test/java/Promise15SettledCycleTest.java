@@ -46,20 +46,11 @@ public final class Promise15SettledCycleTest {
 
     private static void ranges() {
         String words = "Else (id out of range or status not SETTLED) -1";
-        SECTION.test(words, "id is too small", check -> {
-            DvpSettler x = allSettled(64);
-            for (int id : Range.below(0)) {
-                check.due("settledCycle(" + id + ")", x.settledCycle(id), -1);
-            }
-        });
-        SECTION.test(words, "id is too large", check -> {
-            for (int capacity = 8; capacity <= 64; capacity++) {
-                DvpSettler x = allSettled(capacity);
-                for (int id : Range.above(capacity - 1)) {
-                    check.due("settledCycle(" + id + ") of " + capacity, x.settledCycle(id), -1);
-                }
-            }
-        });
+        SECTION.eachUnknown(words, "id is too small", Range.below(0), allSettled(64)::settledCycle);
+        for (int capacity = 8; capacity <= 64; capacity += 14) {
+            SECTION.eachUnknown(words, "id is too large for " + capacity, Range.above(capacity - 1),
+                    allSettled(capacity)::settledCycle);
+        }
         SECTION.test("if 0 <= id < Q and slot id is SETTLED", "the first and the last slot", check -> {
             for (int capacity = 8; capacity <= 64; capacity++) {
                 DvpSettler x = allSettled(capacity);

@@ -16,31 +16,20 @@ public final class Promise16RemovedAtTest {
 
     private static void ranges() {
         String words = "0 <= k < the number of instructions removed in it; else -1";
-        SECTION.test(words, "the first and the last removed", check -> {
+        SECTION.test("answers the id removed k-th (k from 0)", "the first and the last of two", check -> {
             DvpSettler x = Scene.everyStatus();
             check.due("removedAt(0)", x.removedAt(0), 4);
             check.due("removedAt(1)", x.removedAt(1), 3);
         });
-        SECTION.test(words, "k behind the last removed", check -> {
-            for (int k : Range.above(1)) {
-                check.due("removedAt(" + k + ")", Scene.everyStatus().removedAt(k), -1);
-            }
+        SECTION.eachUnknown(words, "k behind the last of two", Range.above(1), Scene.everyStatus()::removedAt);
+        DvpSettler allRemoved = Scene.allQueued(64, 2);
+        allRemoved.cycle();
+        SECTION.test(words, "the first and the last of 64", check -> {
+            check.due("removedAt(0)", allRemoved.removedAt(0), 63);
+            check.due("removedAt(63)", allRemoved.removedAt(63), 0);
         });
-        SECTION.test(words, "k behind 64 removed", check -> {
-            DvpSettler x = Scene.allQueued(64, 2);
-            x.cycle();
-            check.due("removedAt(63)", x.removedAt(63), 0);
-            for (int k : Range.above(63)) {
-                check.due("removedAt(" + k + ")", x.removedAt(k), -1);
-            }
-        });
-        SECTION.test("including any negative k", "after a cycle that removed all", check -> {
-            DvpSettler x = Scene.allQueued(64, 2);
-            x.cycle();
-            for (int k : Range.below(0)) {
-                check.due("removedAt(" + k + ")", x.removedAt(k), -1);
-            }
-        });
+        SECTION.eachUnknown(words, "k behind the last of 64", Range.above(63), allRemoved::removedAt);
+        SECTION.eachUnknown("including any negative k", "after 64 were removed", Range.below(0), allRemoved::removedAt);
     }
 
     private static void noRemovals() {

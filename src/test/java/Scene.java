@@ -11,6 +11,10 @@ final class Scene {
 
     private Scene() { }
 
+    static DvpSettler fresh() {
+        return new DvpSettler(3, 2, 8, 2);
+    }
+
     /**
      * Three participants, two securities, eight slots, two recycles; a slot in each status, by the
      * names above, and every slot from EMPTY on is free. Participants 0 and 1 have 50 in cash each,
@@ -18,7 +22,7 @@ final class Scene {
      * 4 waits with one attempt, for 2 to deliver 6 of security 1 to 1, who pays 7.
      */
     static DvpSettler everyStatus() {
-        DvpSettler x = new DvpSettler(3, 2, 8, 2);
+        DvpSettler x = fresh();
         x.fundSecurity(0, 0, 10);
         x.fundCash(1, 100);
         x.submit(Probe.parties(0, 1), 0, 5, 40);
@@ -44,7 +48,7 @@ final class Scene {
 
     /** Cash spread over all three participants, as much in all as is told. */
     static DvpSettler withTotalCash(int total) {
-        DvpSettler x = new DvpSettler(3, 2, 8, 2);
+        DvpSettler x = fresh();
         for (int i = 0; i * STEP < total; i++) {
             x.fundCash(i % 3, Math.min(STEP, total - i * STEP));
         }
@@ -53,7 +57,7 @@ final class Scene {
 
     /** One security spread over all three participants, as much in all as is told. */
     static DvpSettler withTotalHolding(int s, int total) {
-        DvpSettler x = new DvpSettler(3, 2, 8, 2);
+        DvpSettler x = fresh();
         for (int i = 0; i * STEP < total; i++) {
             x.fundSecurity(i % 3, s, Math.min(STEP, total - i * STEP));
         }

@@ -3,6 +3,9 @@ import java.io.UncheckedIOException;
 import java.nio.file.Files;
 import java.nio.file.Path;
 import java.util.function.Consumer;
+import java.util.function.IntUnaryOperator;
+import java.util.function.ObjIntConsumer;
+import java.util.function.Supplier;
 
 /**
  * The tests of one section of the document. Each test stands beside the words of that section that
@@ -46,6 +49,25 @@ final class Section {
         if (!check.isClean()) {
             failed++;
         }
+    }
+
+    /** A test that makes one call with each of the arguments, all on one object. */
+    void each(String words, String what, int[] arguments, Supplier<DvpSettler> made, ObjIntConsumer<Probe> call) {
+        test(words, what, check -> {
+            Probe t = new Probe(check, made.get());
+            for (int argument : arguments) {
+                call.accept(t, argument);
+            }
+        });
+    }
+
+    /** A test that a getter answers -1 to each of the arguments. */
+    void eachUnknown(String words, String what, int[] arguments, IntUnaryOperator getter) {
+        test(words, what, check -> {
+            for (int argument : arguments) {
+                check.due("the answer to " + argument, getter.applyAsInt(argument), -1);
+            }
+        });
     }
 
     void finish() {

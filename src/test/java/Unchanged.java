@@ -5,7 +5,8 @@ import java.util.function.ObjIntConsumer;
 
 /**
  * Tells whether calls change anything at all, even what only later calls would show: of two equal
- * objects one has the calls made on it before each step, and no answer of the two may differ.
+ * objects one has the calls made on it before and after each step, and no answer of the two may
+ * differ. Each getter is read on a pair of its own, lest reading one hides a change to another.
  */
 final class Unchanged {
     private static final List<Function<DvpSettler, Object>> STEPS = List.of(
@@ -26,14 +27,27 @@ final class Unchanged {
     private Unchanged() { }
 
     static void by(Check check, Consumer<DvpSettler> calls) {
-        DvpSettler x = Scene.everyStatus();
-        DvpSettler twin = Scene.everyStatus();
-        for (int i = 0; i < STEPS.size(); i++) {
-            calls.accept(x);
-            compare(check, "before step " + i, x, twin);
-            check.due("step " + i, STEPS.get(i).apply(x), STEPS.get(i).apply(twin));
-            compare(check, "after step " + i, x, twin);
+        for (int steps = 0; steps <= STEPS.size(); steps++) {
+            for (String getter : State.GETTERS) {
+                StringBuilder answers = new StringBuilder();
+                StringBuilder due = new StringBuilder();
+                DvpSettler x = played(steps, calls, answers);
+                DvpSettler twin = played(steps, untouched -> { }, due);
+                check.due("the first " + steps + " steps", answers.toString(), due.toString());
+                check.due("what differs after step " + steps,
+                        State.of(twin, getter).changesTo(State.of(x, getter)).toString(), "[]");
+            }
         }
+    }
+
+    private static DvpSettler played(int steps, Consumer<DvpSettler> calls, StringBuilder answers) {
+        DvpSettler x = Scene.everyStatus();
+        calls.accept(x);
+        for (Function<DvpSettler, Object> step : STEPS.subList(0, steps)) {
+            answers.append(step.apply(x)).append(' ');
+            calls.accept(x);
+        }
+        return x;
     }
 
     static void byGetter(Check check, ObjIntConsumer<DvpSettler> getter) {
@@ -44,9 +58,5 @@ final class Unchanged {
             getter.accept(x, Integer.MIN_VALUE);
             getter.accept(x, Integer.MAX_VALUE);
         });
-    }
-
-    private static void compare(Check check, String when, DvpSettler x, DvpSettler twin) {
-        check.due("what differs " + when, State.of(twin).changesTo(State.of(x)).toString(), "[]");
     }
 }
