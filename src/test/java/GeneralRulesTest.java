@@ -3,197 +3,12 @@ public final class GeneralRulesTest {
     private static final int PAIR = Probe.parties(0, 1);
 
     public static void main(String[] args) {
-        overview();
-        sequenceNumbers();
-        largestAmounts();
-        largestTotals();
         refusedCalls();
         getters();
         totals();
+        intRange();
         balances();
         SECTION.finish();
-    }
-
-    private static void overview() {
-        SECTION.test("PARTICIPANTS are numbered 0..P-1 and SECURITIES 0..S-1", "the ends, and one beyond each", check -> {
-            DvpSettler x = new DvpSettler(5, 3, 8, 1);
-            check.due("cash of -1, 0, 4, 5", x.cash(-1) + " " + x.cash(0) + " " + x.cash(4) + " " + x.cash(5),
-                    "-1 0 0 -1");
-            check.due("totalHolding of -1, 0, 2, 3", x.totalHolding(-1) + " " + x.totalHolding(0) + " "
-                    + x.totalHolding(2) + " " + x.totalHolding(3), "-1 0 0 -1");
-        });
-        SECTION.test("An INSTRUCTION lives in a slot with id 0..Q-1", "the ends, and one beyond each", check -> {
-            DvpSettler x = Scene.allQueued(11, 1);
-            check.due("status of -1, 0, 10, 11", x.status(-1) + " " + x.status(0) + " " + x.status(10) + " "
-                    + x.status(11), "-1 1 1 -1");
-        });
-        SECTION.test("all start at 0", "of the largest object", check -> {
-            DvpSettler x = new DvpSettler(8, 4, 64, 8);
-            for (int p = 0; p < 8; p++) {
-                check.due("cash(" + p + ")", x.cash(p), 0);
-                for (int s = 0; s < 4; s++) {
-                    check.due("holding(" + p + ", " + s + ")", x.holding(p, s), 0);
-                }
-            }
-        });
-        SECTION.test("so circles of trades that are each impossible alone (gridlock) can settle together", "of eight",
-                check -> {
-                    DvpSettler x = new DvpSettler(8, 1, 8, 1);
-                    for (int p = 0; p < 8; p++) {
-                        x.submit(Probe.parties(p, (p + 1) % 8), 0, 1000000, 1000000);
-                    }
-                    for (int id = 0; id < 8; id++) {
-                        check.due("settleNow(" + id + ")", x.settleNow(id), false);
-                    }
-                    check.due("cycle()", x.cycle(), 8);
-                    check.due("totals", x.totalCash() + " " + x.totalHolding(0), "0 0");
-                });
-        SECTION.test("while some participant would end negative it drops one instruction", "one broken link breaks all",
-                check -> {
-                    DvpSettler x = new DvpSettler(8, 1, 8, 1);
-                    for (int p = 0; p < 7; p++) {
-                        x.submit(Probe.parties(p, p + 1), 0, 1, 0);
-                    }
-                    check.due("cycle()", x.cycle(), 0);
-                    check.due("the record", Probe.record(x), "[0, 1, 2, 3, 4, 5, 6]");
-                });
-        SECTION.test("Dropped instructions are recycled to the next cycle and are given up as FAILED after maxRecycles drops",
-                "two drops of two", check -> {
-                    DvpSettler x = Scene.allQueued(8, 2);
-                    x.cycle();
-                    check.due("status(0) after one", x.status(0), DvpSettler.QUEUED);
-                    x.cycle();
-                    check.due("status(0) after two", x.status(0), DvpSettler.FAILED);
-                });
-        SECTION.test("FAILED (4): removed by cycles maxRecycles times, given up", "with funds that come too late", check -> {
-            DvpSettler x = Scene.allQueued(8, 1);
-            x.cycle();
-            x.fundSecurity(0, 0, 8);
-            check.due("settleNow(0)", x.settleNow(0), false);
-            check.due("cycle()", x.cycle(), 0);
-            check.due("status(0)", x.status(0), DvpSettler.FAILED);
-        });
-        SECTION.test("EMPTY = 0, QUEUED = 1, SETTLED = 2, CANCELLED = 3, FAILED = 4", "the constants", check ->
-                check.due("the constants", DvpSettler.EMPTY + " " + DvpSettler.QUEUED + " " + DvpSettler.SETTLED + " "
-                        + DvpSettler.CANCELLED + " " + DvpSettler.FAILED, "0 1 2 3 4"));
-    }
-
-    private static void sequenceNumbers() {
-        SECTION.test("the count of submissions accepted before it on this object (0, 1, 2, ...)",
-                "slots that were filled out of order", check -> {
-                    DvpSettler x = Scene.allQueued(8, 2);
-                    x.cancel(5);
-                    x.clearDone();
-                    x.submit(PAIR, 0, 1, 0);
-                    x.cancel(2);
-                    x.clearDone();
-                    x.submit(PAIR, 0, 1, 0);
-                    x.cycle();
-                    check.due("the record", Probe.record(x), "[2, 5, 7, 6, 4, 3, 1, 0]");
-                });
-        String words = "Sequence numbers are never reused, not even after clearDone";
-        SECTION.test(words, "when only the last accepted is left", check -> {
-            DvpSettler x = Scene.allQueued(8, 2);
-            for (int id = 0; id < 7; id++) {
-                x.cancel(id);
-            }
-            x.clearDone();
-            x.submit(PAIR, 0, 1, 0);
-            x.cycle();
-            check.due("the record", Probe.record(x), "[0, 7]");
-        });
-        youngestAfter(words, 128, "more than a byte counts");
-        youngestAfter(words, 256, "a counter of one byte is back at its start");
-        youngestAfter(words, 32768, "more than a short counts");
-        youngestAfter(words, 65536, "a counter of two bytes is back at its start");
-    }
-
-    /** Slot 1 keeps an old instruction while slot 0 is used again and again: the last one there is the youngest. */
-    private static void youngestAfter(String words, int accepted, String what) {
-        SECTION.test(words, what, check -> {
-            DvpSettler x = new DvpSettler(2, 1, 8, 2);
-            x.submit(PAIR, 0, 1, 0);
-            x.submit(PAIR, 0, 1, 0);
-            for (int i = 2; i < accepted; i++) {
-                x.cancel(0);
-                x.clearDone();
-                x.submit(PAIR, 0, 1, 0);
-            }
-            x.cancel(0);
-            x.clearDone();
-            x.submit(PAIR, 0, 1, 0);
-            x.cycle();
-            check.due("the record", Probe.record(x), "[0, 1]");
-        });
-    }
-
-    private static void largestAmounts() {
-        String words = "MAX_AMOUNT = 1000000: the largest single funding amount, quantity or payment amount";
-        SECTION.test(words, "of fundCash", check -> {
-            check.due("MAX_AMOUNT", DvpSettler.MAX_AMOUNT, 1000000);
-            check.due("a million", new DvpSettler(2, 1, 8, 1).fundCash(0, 1000000), true);
-            check.due("one more", new DvpSettler(2, 1, 8, 1).fundCash(0, 1000001), false);
-        });
-        SECTION.test(words, "of fundSecurity", check -> {
-            check.due("a million", new DvpSettler(2, 1, 8, 1).fundSecurity(0, 0, 1000000), true);
-            check.due("one more", new DvpSettler(2, 1, 8, 1).fundSecurity(0, 0, 1000001), false);
-        });
-        SECTION.test(words, "of a quantity", check -> {
-            check.due("a million", new DvpSettler(2, 1, 8, 1).submit(PAIR, 0, 1000000, 0), 0);
-            check.due("one more", new DvpSettler(2, 1, 8, 1).submit(PAIR, 0, 1000001, 0), -1);
-        });
-        SECTION.test(words, "of a payment", check -> {
-            check.due("a million", new DvpSettler(2, 1, 8, 1).submit(PAIR, 0, 1, 1000000), 0);
-            check.due("one more", new DvpSettler(2, 1, 8, 1).submit(PAIR, 0, 1, 1000001), -1);
-        });
-    }
-
-    private static void largestTotals() {
-        String words = "MAX_TOTAL = 100000000: the largest total cash, and the largest total of each security";
-        SECTION.test(words, "of cash", check -> {
-            check.due("MAX_TOTAL", DvpSettler.MAX_TOTAL, 100000000);
-            DvpSettler x = Scene.withTotalCash(99999999);
-            check.due("fundCash(2, 1)", x.fundCash(2, 1), true);
-            check.due("fundCash(1, 1)", x.fundCash(1, 1), false);
-        });
-        SECTION.test(words, "of every security at once", check -> {
-            DvpSettler x = new DvpSettler(2, 4, 8, 1);
-            for (int s = 0; s < 4; s++) {
-                for (int i = 0; i < 100; i++) {
-                    check.due("fundSecurity", x.fundSecurity(i % 2, s, 1000000), true);
-                }
-                check.due("totalHolding(" + s + ")", x.totalHolding(s), 100000000);
-                check.due("one unit more", x.fundSecurity(0, s, 1), false);
-            }
-        });
-        String range = "Arithmetic never exceeds int range: each total is kept at most MAX_TOTAL";
-        SECTION.test(range, "the greatest deficits, in cash and a security", check -> greatest(check, 0, 0, 0));
-        SECTION.test(range, "the greatest deficit in a security", check -> greatest(check, 100, 0, 0));
-        SECTION.test(range, "the greatest deficit in cash", check -> greatest(check, 0, 100, 0));
-        SECTION.test(range, "the greatest balances, and those that just cover", check -> {
-            greatest(check, 100, 100, 64);
-            greatest(check, 64, 64, 64);
-            greatest(check, 63, 100, 63);
-            greatest(check, 100, 63, 63);
-        });
-    }
-
-    /** 64 of the greatest instructions, where the buyer and the seller have so many millions: as many settle as told. */
-    private static void greatest(Check check, int cash, int held, int settled) {
-        DvpSettler x = new DvpSettler(2, 1, 64, 1);
-        for (int i = 0; i < cash; i++) {
-            x.fundCash(1, 1000000);
-        }
-        for (int i = 0; i < held; i++) {
-            x.fundSecurity(0, 0, 1000000);
-        }
-        for (int id = 0; id < 64; id++) {
-            x.submit(PAIR, 0, 1000000, 1000000);
-        }
-        check.due("cycle()", x.cycle(), settled);
-        check.due("cash", x.cash(0) + " " + x.cash(1), settled * 1000000 + " " + (cash - settled) * 1000000);
-        check.due("holdings", x.holding(0, 0) + " " + x.holding(1, 0),
-                (held - settled) * 1000000 + " " + settled * 1000000);
     }
 
     private static void refusedCalls() {
@@ -314,6 +129,37 @@ public final class GeneralRulesTest {
         return x.totalCash() + " " + x.totalHolding(0) + " " + x.totalHolding(1);
     }
 
+    private static void intRange() {
+        String range = "Arithmetic never exceeds int range: each total is kept at most MAX_TOTAL";
+        SECTION.test(range, "the greatest deficits, in cash and a security", check -> greatest(check, 0, 0, 0));
+        SECTION.test(range, "the greatest deficit in a security", check -> greatest(check, 100, 0, 0));
+        SECTION.test(range, "the greatest deficit in cash", check -> greatest(check, 0, 100, 0));
+        SECTION.test(range, "the greatest balances, and those that just cover", check -> {
+            greatest(check, 100, 100, 64);
+            greatest(check, 64, 64, 64);
+            greatest(check, 63, 100, 63);
+            greatest(check, 100, 63, 63);
+        });
+    }
+
+    /** 64 of the greatest instructions, where the buyer and the seller have so many millions: as many settle as told. */
+    private static void greatest(Check check, int cash, int held, int settled) {
+        DvpSettler x = new DvpSettler(2, 1, 64, 1);
+        for (int i = 0; i < cash; i++) {
+            x.fundCash(1, 1000000);
+        }
+        for (int i = 0; i < held; i++) {
+            x.fundSecurity(0, 0, 1000000);
+        }
+        for (int id = 0; id < 64; id++) {
+            x.submit(PAIR, 0, 1000000, 1000000);
+        }
+        check.due("cycle()", x.cycle(), settled);
+        check.due("cash", x.cash(0) + " " + x.cash(1), settled * 1000000 + " " + (cash - settled) * 1000000);
+        check.due("holdings", x.holding(0, 0) + " " + x.holding(1, 0),
+                (held - settled) * 1000000 + " " + settled * 1000000);
+    }
+
     private static void balances() {
         SECTION.test("every cash(p) and holding(p, s) is at least 0", "a cycle uses up all there is", check -> {
             DvpSettler x = Scene.allQueued(64, 8);
@@ -333,6 +179,18 @@ public final class GeneralRulesTest {
             check.due("cash", x.cash(0) + " " + x.cash(1) + " " + x.cash(2), "50 10 0");
             check.due("holdings", x.holding(0, 0) + " " + x.holding(1, 0) + " " + x.holding(2, 0), "0 0 10");
         });
+        SECTION.test("cash(p) equals the cash funded to p plus, over all instructions that ever settled on this object",
+                "funded, settled alone, settled in a cycle, and what never settled", check -> {
+                    DvpSettler x = tradedBothWays();
+                    // 0 sold for 30 and 7; 1 bought for 30 and sold for 11; 2 bought for 7 and 11.
+                    check.due("cash", x.cash(0) + " " + x.cash(1) + " " + x.cash(2), "37 81 82");
+                });
+        SECTION.test("holding(p, s) equals the quantity of s funded to p plus the quantities of such instructions of s"
+                + " where p was buyer minus those where p was seller", "each security by itself", check -> {
+                    DvpSettler x = tradedBothWays();
+                    check.due("security 0", x.holding(0, 0) + " " + x.holding(1, 0) + " " + x.holding(2, 0), "4 4 2");
+                    check.due("security 1", x.holding(0, 1) + " " + x.holding(1, 1) + " " + x.holding(2, 1), "3 0 7");
+                });
         SECTION.test("including those whose slots clearDone has since freed", "a slot used a hundred times", check -> {
             DvpSettler x = new DvpSettler(2, 1, 8, 1);
             x.fundSecurity(0, 0, 100);
@@ -347,6 +205,25 @@ public final class GeneralRulesTest {
         });
         oneLegMissing("No instruction ever has only one of its two legs applied");
         oneLegMissing("Both legs move together or not at all");
+    }
+
+    /** One sale settled alone and freed, two settled in a cycle, one cancelled and one failed. */
+    private static DvpSettler tradedBothWays() {
+        DvpSettler x = new DvpSettler(3, 2, 8, 1);
+        x.fundCash(1, 100);
+        x.fundCash(2, 100);
+        x.fundSecurity(0, 0, 10);
+        x.fundSecurity(0, 1, 10);
+        x.submit(PAIR, 0, 6, 30);
+        x.settleNow(0);
+        x.clearDone();
+        x.submit(PAIR, 0, 1, 1);
+        x.cancel(0);
+        x.submit(Probe.parties(0, 2), 1, 7, 7);
+        x.submit(Probe.parties(1, 2), 0, 2, 11);
+        x.submit(Probe.parties(1, 2), 1, 1, 1);
+        x.cycle();
+        return x;
     }
 
     private static void oneLegMissing(String words) {

@@ -83,6 +83,9 @@ public final class Promise02FundCashTest {
             t.fundCash(2, 7, true, "cash(2) 0 -> 7", "totalCash() 40 -> 47");
             t.fundCash(1, 2, true, "cash(1) 40 -> 42", "totalCash() 47 -> 49");
         });
+        SECTION.test("cash(p) increases by amount, totalCash() increases by amount, and the answer is true",
+                "from what was there", check -> new Probe(check, Scene.withTotalCash(2000001)).fundCash(1, 999999, true,
+                        "cash(1) 1000000 -> 1999999", "totalCash() 2000001 -> 3000000"));
         SECTION.test("If any fails the answer is false and nothing changes", "when all of them fail", check ->
                 new Probe(check, Scene.withTotalCash(100000000)).fundCash(-1, 1000001, false));
         SECTION.test("Nothing else changes: no holding, no slot, no counter, no removal record", "slots in every status",

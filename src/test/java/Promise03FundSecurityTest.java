@@ -94,6 +94,9 @@ public final class Promise03FundSecurityTest {
             }
             t.fundSecurity(7, 3, 9, true, "holding(7, 3) 1 -> 10", "totalHolding(3) 8 -> 17");
         });
+        SECTION.test("holding(p, s) and totalHolding(s) increase by quantity and the answer is true",
+                "from what was there", check -> new Probe(check, Scene.withTotalHolding(1, 2000001)).fundSecurity(1, 1,
+                        999999, true, "holding(1, 1) 1000000 -> 1999999", "totalHolding(1) 2000001 -> 3000000"));
         SECTION.test("If any fails the answer is false and nothing changes", "when all of them fail", check ->
                 new Probe(check, Scene.withTotalHolding(0, 100000000)).fundSecurity(-1, -1, 1000001, false));
         SECTION.test("Nothing else changes: no cash, no other holding, no slot, no counter, no removal record",

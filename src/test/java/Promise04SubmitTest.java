@@ -84,6 +84,15 @@ public final class Promise04SubmitTest {
                 t.refused(Probe.parties(p, p), 0, 1, 1);
             }
         });
+        SECTION.test("parties encodes seller * 16 + buyer", "every pair of eight delivers and pays", check -> {
+            for (int seller = 0; seller < 8; seller++) {
+                for (int buyer = 0; buyer < 8; buyer++) {
+                    if (seller != buyer) {
+                        isPairOf(check, seller, buyer);
+                    }
+                }
+            }
+        });
         SECTION.test("seller = parties / 16 and buyer = parties % 16", "who delivers and who pays", check -> {
             DvpSettler x = new DvpSettler(8, 1, 8, 2);
             x.fundSecurity(7, 0, 4);
@@ -93,6 +102,16 @@ public final class Promise04SubmitTest {
             t.settleNow(0, true, "holding(7, 0) 4 -> 0", "holding(2, 0) 0 -> 4", "cash(2) 5 -> 0", "cash(7) 0 -> 5",
                     "status(0) 1 -> 2", "settledCycle(0) -1 -> 0");
         });
+    }
+
+    private static void isPairOf(Check check, int seller, int buyer) {
+        DvpSettler x = new DvpSettler(8, 1, 8, 2);
+        x.fundSecurity(seller, 0, 4);
+        x.fundCash(buyer, 5);
+        x.submit(seller * 16 + buyer, 0, 4, 5);
+        check.due("settleNow of " + seller + " to " + buyer, x.settleNow(0), true);
+        check.due("holding of " + buyer, x.holding(buyer, 0), 4);
+        check.due("cash of " + seller, x.cash(seller), 5);
     }
 
     private static void securities() {
@@ -262,6 +281,12 @@ public final class Promise04SubmitTest {
             t.accepted(0, Probe.parties(1, 0), 0, 7, 50);
             t.settleNow(0, true, "holding(1, 0) 7 -> 0", "holding(0, 0) 3 -> 10", "cash(0) 50 -> 0",
                     "cash(1) 50 -> 100", "status(0) 1 -> 2", "settledCycle(0) -1 -> 0");
+        });
+        SECTION.test("the answer is the slot id", "of every slot of the largest object", check -> {
+            Probe t = new Probe(check, 2, 1, 64, 2);
+            for (int id = 0; id < 64; id++) {
+                t.accepted(id, PAIR, 0, 1, 0);
+            }
         });
         SECTION.test("the sequence counter advances by 1", "the later submission is removed first", check -> {
             DvpSettler x = Scene.allQueued(8, 2);

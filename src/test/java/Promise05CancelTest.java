@@ -20,6 +20,13 @@ public final class Promise05CancelTest {
             t.cancel(0, true, "status(0) 1 -> 3");
             t.cancel(63, true, "status(63) 1 -> 3");
         });
+        SECTION.test("its status becomes CANCELLED and the answer is true", "every slot, each once", check -> {
+            Probe t = new Probe(check, Scene.allQueued(64, 2));
+            for (int id = 63; id >= 0; id--) {
+                t.cancel(id, true, "status(" + id + ") 1 -> 3");
+                t.cancel(id, false);
+            }
+        });
         SECTION.each("id out of range", "id is too small", Range.below(0), () -> Scene.allQueued(64, 2),
                 (t, id) -> t.cancel(id, false));
         SECTION.test("id out of range", "id is too large", check -> {

@@ -135,6 +135,26 @@ public final class Promise06SettleNowTest {
     }
 
     private static void changes() {
+        SECTION.test("settles one instruction alone", "the same again in another slot waits on", check -> {
+            DvpSettler x = sale(check, 100, 1000).settler();
+            x.submit(Probe.parties(2, 0), 1, 10, 70);
+            new Probe(check, x).settleNow(1, true, "holding(2, 1) 100 -> 90", "holding(0, 1) 0 -> 10",
+                    "cash(0) 1000 -> 930", "cash(2) 0 -> 70", "status(1) 1 -> 2", "settledCycle(1) -1 -> 0");
+        });
+        SECTION.test("holding(seller, security) decreases by quantity; holding(buyer, security) increases by quantity",
+                "both hold some before, and no cash is paid", check -> {
+                    DvpSettler x = Scene.withTotalHolding(1, 3000000);
+                    x.submit(Probe.parties(1, 2), 1, 999999, 0);
+                    new Probe(check, x).settleNow(0, true, "holding(1, 1) 1000000 -> 1",
+                            "holding(2, 1) 1000000 -> 1999999", "status(0) 1 -> 2", "settledCycle(0) -1 -> 0");
+                });
+        SECTION.test("cash(buyer) decreases by amount; cash(seller) increases by amount", "both have some before", check -> {
+            DvpSettler x = Scene.withTotalCash(3000000);
+            x.fundSecurity(1, 1, 1);
+            x.submit(Probe.parties(1, 2), 1, 1, 999999);
+            new Probe(check, x).settleNow(0, true, "cash(2) 1000000 -> 1", "cash(1) 1000000 -> 1999999",
+                    "holding(1, 1) 1 -> 0", "holding(2, 1) 0 -> 1", "status(0) 1 -> 2", "settledCycle(0) -1 -> 0");
+        });
         SECTION.test("the status becomes SETTLED and the settled cycle becomes 0", "after cycles have been run", check -> {
             DvpSettler x = rich();
             check.due("cycleCount()", x.cycleCount(), 2);

@@ -103,7 +103,8 @@ public final class Promise07CycleTest {
                             "cash(1) 25 -> 1", "cash(0) 0 -> 24", "holding(0, 0) 4 -> 0", "holding(1, 0) 0 -> 4",
                             "status(1) 1 -> 2", "settledCycle(1) -1 -> 1");
                 });
-        String words = "netSec(p, s) = holding(p, s) + sum of quantity where p is buyer and security s";
+        String words = "netSec(p, s) = holding(p, s) + sum of quantity where p is buyer and security s"
+                + " - sum of quantity where p is seller and security s";
         SECTION.test(words, "what 1 receives it hands on, to the last unit", check ->
                 new Probe(check, handedOn(9)).cycle(2, "cycleCount() 0 -> 1", "holding(0, 0) 9 -> 0",
                         "holding(2, 0) 0 -> 9", "status(0) 1 -> 2", "status(1) 1 -> 2",

@@ -24,7 +24,7 @@ final class Section {
         this.text = textUnder(heading);
     }
 
-    private static String textUnder(String heading) {
+    static String textUnder(String heading) {
         try {
             for (String section : Files.readString(DOCUMENT).split("(?m)^## ")) {
                 if (section.startsWith(heading + "\n")) {
